@@ -135,6 +135,8 @@ public final class PromisesTest {
         due("4 undo", x.undo(0), 2);
         due("4 with its ;", x.count(2), 9);
         due("4 well", x.fault(0), NONE);
+        due("4 the poem is told anew", x.poem(0), 2);
+        due("4 he makes no third", x.count(5), 3);
         due("4 undo", x.undo(0), 1);
         due("4 undo the last", x.undo(0), 0);
         due("4 no bytes", x.count(2), 0);
@@ -240,6 +242,11 @@ public final class PromisesTest {
         row("9 a riddle wears a pen for 2 breaths more", poems(y), 2, 7, 0, 1);
         y.set(WEAR, 4);
         row("9 and no more", poems(y), 2, 7, 0, 0);
+        MayNotPause z = Due.with("p020;p020;p020", "");
+        z.set(WEAR, 4);
+        row("9 a new pen lasts for as long", poems(z), 3, 12, 0, 1);
+        z.set(WEAR, 3);
+        row("9 two pens", poems(z), 3, 12, 0, 2);
     }
 
     private static void poem() {
@@ -261,6 +268,8 @@ public final class PromisesTest {
         due("10 the next", x.judged(), 1);
         x.set(LEAD, 7);
         due("10 none", x.judged(), NONE);
+        x.set(LEAD, 6);
+        due("10 a pause of 1", x.judged(), 1);
     }
 
     private static void rest() {
@@ -338,6 +347,15 @@ public final class PromisesTest {
         // As long are the second twice at 0, and the first at 0 with the third at 1.
         MayNotPause both = Due.with("l010;l910;l610", "p012;p017;r419");
         row("13 both places come ahead of both HARD ones", puts(both), 2, 23, 0, 1, 0, 1);
+        // The twelfth verse is late by 8: a list gains 2 breaths, the riddle 6, and 5 when it comes again.
+        MayNotPause full = Due.with("p110;".repeat(11) + "p910", "l010;l010;l010;r013");
+        full.set(LEAD, 1);
+        row("13 two with twelve verses", puts(full), 2, 33, 0, 0, 0, 3);
+        full.wipe(1);
+        Due.typeAll(full, 1, "p010;p010;p010;r013");
+        row("13 the last one twice", puts(full), 2, 37, 0, 3, 0, 3);
+        full.set(LEAD, 3);
+        row("13 the last one once", puts(full), 1, 31, 0, 3, NONE, NONE);
     }
 
     private static void order() {
@@ -372,6 +390,8 @@ public final class PromisesTest {
         due("15 not all is written", x.lead(), NONE);
         x.set(PENS, 3);
         due("15 all is written", x.lead(), 7);
+        // 108 breaths to make, and eleven verses that gain 1 breath each for the next.
+        due("15 the most that is ever needed", Due.with("p910;".repeat(12).substring(0, 59), "").lead(), 97);
     }
 
     private static void odds() {
@@ -381,6 +401,8 @@ public final class PromisesTest {
         row("16 a KNOT of 9", oddsOf(Due.with("p119", "")), 3, 4, 3, 4);
         row("16 the KNOT that counts", oddsOf(Due.with("p115;p116", "")), 1, 1, 2, 1);
         row("16 two", oddsOf(Due.with("p117;p111;r118", "")), 91, 128, 315, 128);
+        row("16 unlike ones below", oddsOf(Due.with("p119;r116;p119", "")), 585, 1024, 2073, 1024);
+        row("16 WHOLE and MEAN have their own below", oddsOf(Due.with("p119;p111", "")), 3, 4, 3, 2);
         MayNotPause x = Due.with("p997", "");
         x.set(LAW, 1);
         row("16 LAW aside", oddsOf(x), 7, 8, 7, 8);
@@ -400,6 +422,24 @@ public final class PromisesTest {
             due("17 six " + seed, six.drawn(seed), lot < 1 ? 1 : 2);
         }
         due("17 the least seed: a LOT of 0", nine.drawn(LEAST), 1);
+        // A seed goes on from verse to verse, but for those that cannot halt him.
+        MayNotPause many = Due.with("p119;p119;l115;p119;r119;r119;r115;l119;p119;r119;c119", "");
+        for (int seed = -1000; seed < 1000; seed++) {
+            due("17 many " + seed, many.drawn(seed), drawnBy(seed, 4, 3, 0, 2, 4, 3, 0, 3, 1, 1, 4));
+        }
+    }
+
+    private static int drawnBy(int seed, int... sixteenths) {
+        int next = seed;
+        for (int v = 0; v < sixteenths.length; v++) {
+            if (sixteenths[v] > 0) {
+                next = next * 1103515245 + 12345;
+                if ((next >> 16 & 0xFFFF) % 16 < sixteenths[v]) {
+                    return v;
+                }
+            }
+        }
+        return sixteenths.length;
     }
 
     private static void line() {
@@ -417,6 +457,14 @@ public final class PromisesTest {
         x.set(FILLERS, 0);
         due("18 the tenth is best", x.line(NONE, 0), 10);
         due("18 without errors", x.line(NONE, 1), 0);
+        x.set(FILLERS, 0b11111);
+        due("18 the least is best", x.line(NONE, 0), 0);
+        due("18 without errors", x.line(NONE, 1), 0);
+        x.set(FILLERS, 0b00011);
+        due("18 of like ones the least", x.line(NONE, 0), 10);
+        due("18 errors of both sorts", x.line(NONE, 1), 2);
+        x.set(FILLERS, 0b00001);
+        due("18 not called wrongly", x.line(NONE, 1), 1);
         due("18 below", x.line(-2, 0), BAD);
         due("18 above", x.line(11, 0), BAD);
         due("18 no such", x.line(0, -1), BAD);
@@ -492,6 +540,9 @@ public final class PromisesTest {
         x.forget();
         x.sheet(2, 2, 1);
         due("22 one item is none", x.read(2), 0);
+        x.sheet(2, 2, 2);
+        due("22 two are one", x.read(2), 1);
+        x.forget();
         x.sheet(2, 2, 0);
         due("22 no items", x.read(2), 0);
         x.sheet(3, 0, 2);
@@ -522,10 +573,12 @@ public final class PromisesTest {
         due("23 sixty", x.sheet(3, 2, 60), 60);
         due("23 0 at first", x.get(3, 2, 59), 0);
         x.lay(3, 2, 5, 77);
+        x.lay(3, 2, 0, 78);
         due("23 below leaves it", x.sheet(3, 2, LEAST), SIZE);
         due("23 as it was", x.get(3, 2, 5), 77);
         due("23 a new row", x.sheet(3, 2, 10), 10);
         due("23 0 again", x.get(3, 2, 5), 0);
+        due("23 0 again", x.get(3, 2, 0), 0);
         due("23 another form", x.sheet(3, 0, 10), 10);
         due("23 of that form", x.get(3, 0, 9), 0);
     }
@@ -677,10 +730,24 @@ public final class PromisesTest {
         x.set(FILLERS, 5);
         x.seen(0, 1);
         due("30 LAW 1", x.digest(), digestOf(x));
+        digestOfOddsAndLines();
         x.read(3);
         due("30 it changes nothing", x.count(8), 1);
         due("30 findings are no part", x.digest(), digestOf(x));
         due("30 it changes nothing", x.count(8), 1);
+    }
+
+    // Errors and draws that differ by seed, LINE and sort, so that each shows in the digest.
+    private static void digestOfOddsAndLines() {
+        MayNotPause x = Due.with("p119;p119;p114;p114;p115;r119;r119;l116", "");
+        for (int fillers = 0; fillers < 256; fillers += 5) {
+            x.set(FILLERS, fillers);
+            due("30 fillers " + fillers, x.digest(), digestOf(x));
+        }
+        for (int k = 0; k < 7; k++) {
+            x.undo(0);
+            due("30 undone " + k, x.digest(), digestOf(x));
+        }
     }
 
     private static long digestOf(MayNotPause x) {

@@ -48,34 +48,7 @@ public final class PromisesTest {
     }
 
     private static void row(String call, long[] got, long... want) {
-        due(call + " length", got.length, want.length);
-        for (int i = 0; i < got.length && i < want.length; i++) {
-            due(call + " [" + i + "]", got[i], want[i]);
-        }
-    }
-
-    private static long[] times(MayNotPause x, int verse) {
-        return new long[] {x.when(verse, 0), x.when(verse, 1), x.when(verse, 2), x.when(verse, 3), x.when(verse, 4)};
-    }
-
-    private static long[] poems(MayNotPause x) {
-        return new long[] {x.poem(0), x.poem(1), x.poem(2), x.poem(3)};
-    }
-
-    private static long[] puts(MayNotPause x) {
-        return new long[] {x.put(0), x.put(1), x.put(2), x.put(3), x.put(4), x.put(5)};
-    }
-
-    private static long[] orders(MayNotPause x) {
-        long[] all = new long[9];
-        for (int i = -2; i <= 6; i++) {
-            all[i + 2] = x.order(i);
-        }
-        return all;
-    }
-
-    private static long[] oddsOf(MayNotPause x) {
-        return new long[] {x.odds(0), x.odds(1), x.odds(2), x.odds(3)};
+        DUE.row(call, got, want);
     }
 
     private static void newObject() {
@@ -92,7 +65,7 @@ public final class PromisesTest {
         for (int what = 0; what < 6; what++) {
             due("1 set " + what, x.set(what, first[what]), first[what]);
         }
-        row("1 poem", poems(x), 0, 0, 0, 0);
+        row("1 poem", Due.poems(x), 0, 0, 0, 0);
     }
 
     private static void type() {
@@ -204,16 +177,16 @@ public final class PromisesTest {
     private static void when() {
         // He makes 2 breaths, says 3, makes on while it is understood and written.
         MayNotPause x = Due.with("p231;l941;r320;c111", "");
-        row("8 when 0", times(x, 0), 2, 5, 6, 9, 2);
-        row("8 when 1", times(x, 1), 14, 18, 19, 23, 5);
-        row("8 when 2: made in part while the list was said", times(x, 2), 23, 25, 25, 29, 0);
-        row("8 when 3", times(x, 3), 29, 30, 31, 32, 0);
+        row("8 when 0", Due.whens(x, 0), 2, 5, 6, 9, 2);
+        row("8 when 1", Due.whens(x, 1), 14, 18, 19, 23, 5);
+        row("8 when 2: made in part while the list was said", Due.whens(x, 2), 23, 25, 25, 29, 0);
+        row("8 when 3", Due.whens(x, 3), 29, 30, 31, 32, 0);
         x.set(LAW, 1);
-        row("8 by LAW 1 it does not begin", times(x, 0), NONE, NONE, NONE, NONE, NONE);
-        row("8 nor what is behind", times(x, 3), NONE, NONE, NONE, NONE, NONE);
+        row("8 by LAW 1 it does not begin", Due.whens(x, 0), NONE, NONE, NONE, NONE, NONE);
+        row("8 nor what is behind", Due.whens(x, 3), NONE, NONE, NONE, NONE, NONE);
         x.set(LEAD, 2);
-        row("8 LEAD", times(x, 0), 0, 3, 4, 7, 0);
-        row("8 he would pause", times(x, 1), NONE, NONE, NONE, NONE, NONE);
+        row("8 LEAD", Due.whens(x, 0), 0, 3, 4, 7, 0);
+        row("8 he would pause", Due.whens(x, 1), NONE, NONE, NONE, NONE, NONE);
         due("8 below", x.when(-1, 0), BAD);
         due("8 above", x.when(4, 0), BAD);
         due("8 no such", x.when(0, -1), BAD);
@@ -224,38 +197,38 @@ public final class PromisesTest {
         MayNotPause x = Due.with("p041;p042;p013", "");
         x.set(WEAR, 8);
         x.set(CHANGE, 3);
-        row("8 the pen lasts just so long", times(x, 1), 9, 13, 14, 18, 0);
-        row("8 a new pen takes CHANGE", times(x, 2), 18, 19, 20, 24, 0);
-        row("9 one pen anew", poems(x), 3, 24, 0, 1);
+        row("8 the pen lasts just so long", Due.whens(x, 1), 9, 13, 14, 18, 0);
+        row("8 a new pen takes CHANGE", Due.whens(x, 2), 18, 19, 20, 24, 0);
+        row("9 one pen anew", Due.poems(x), 3, 24, 0, 1);
         x.set(PENS, 0);
-        row("8 no pen: understood, not written", times(x, 2), 18, 19, 20, NONE, 0);
-        row("9 no pen", poems(x), 2, 18, 0, 0);
+        row("8 no pen: understood, not written", Due.whens(x, 2), 18, 19, 20, NONE, 0);
+        row("9 no pen", Due.poems(x), 2, 18, 0, 0);
         due("10 not written", x.judged(), 2);
         due("12 in hand", x.doing(19, 2), 2);
         due("12 till it is understood", x.doing(20, 2), NONE);
         x.set(WEAR, 1);
-        row("9 with a new one any verse can be written", poems(x), 1, 9, 0, 0);
+        row("9 with a new one any verse can be written", Due.poems(x), 1, 9, 0, 0);
         x.set(PENS, 1);
-        row("9 one spare", poems(x), 2, 21, 0, 1);
+        row("9 one spare", Due.poems(x), 2, 21, 0, 1);
         MayNotPause y = Due.with("r011;p010", "");
         y.set(WEAR, 3);
-        row("9 a riddle wears a pen for 2 breaths more", poems(y), 2, 7, 0, 1);
+        row("9 a riddle wears a pen for 2 breaths more", Due.poems(y), 2, 7, 0, 1);
         y.set(WEAR, 4);
-        row("9 and no more", poems(y), 2, 7, 0, 0);
+        row("9 and no more", Due.poems(y), 2, 7, 0, 0);
         MayNotPause z = Due.with("p020;p020;p020", "");
         z.set(WEAR, 4);
-        row("9 a new pen lasts for as long", poems(z), 3, 12, 0, 1);
+        row("9 a new pen lasts for as long", Due.poems(z), 3, 12, 0, 1);
         z.set(WEAR, 3);
-        row("9 two pens", poems(z), 3, 12, 0, 2);
+        row("9 two pens", Due.poems(z), 3, 12, 0, 2);
     }
 
     private static void poem() {
         MayNotPause x = Due.with("p231;l941;r320;c111", "");
-        row("9 poem", poems(x), 4, 32, 7, 0);
+        row("9 poem", Due.poems(x), 4, 32, 7, 0);
         x.set(LAW, 1);
-        row("9 LAW 1", poems(x), 0, 0, 0, 0);
+        row("9 LAW 1", Due.poems(x), 0, 0, 0, 0);
         x.set(LEAD, 2);
-        row("9 LAW 1 later", poems(x), 1, 7, 0, 0);
+        row("9 LAW 1 later", Due.poems(x), 1, 7, 0, 0);
         due("9 no such", x.poem(-1), BAD);
         due("9 no such", x.poem(4), BAD);
     }
@@ -313,66 +286,66 @@ public final class PromisesTest {
 
     private static void put() {
         MayNotPause none = new MayNotPause();
-        row("13 no verses", puts(none), 0, 0, NONE, NONE, NONE, NONE);
+        row("13 no verses", Due.puts(none), 0, 0, NONE, NONE, NONE, NONE);
         due("13 no such", none.put(-1), BAD);
         due("13 no such", none.put(6), BAD);
         // The second verse is late by 7 breaths.
         MayNotPause one = Due.with("p010;p810", "");
-        row("13 no hard ones", puts(one), NONE, NONE, NONE, NONE, NONE, NONE);
+        row("13 no hard ones", Due.puts(one), NONE, NONE, NONE, NONE, NONE, NONE);
         Due.typeAll(one, 1, "p014;p016;p017;p019");
-        row("13 the least LONG of those that do", puts(one), 1, 12, 0, 1, NONE, NONE);
+        row("13 the least LONG of those that do", Due.puts(one), 1, 12, 0, 1, NONE, NONE);
         one.set(LEAD, 7);
-        row("13 none is needed", puts(one), 0, 4, NONE, NONE, NONE, NONE);
+        row("13 none is needed", Due.puts(one), 0, 4, NONE, NONE, NONE, NONE);
         MayNotPause two = Due.with("p010;p910;p010", "r014;l012");
-        row("13 two of them", puts(two), 2, 18, 0, 0, 0, 1);
+        row("13 two of them", Due.puts(two), 2, 18, 0, 0, 0, 1);
         two.set(LAW, 1);
-        row("13 by LAW 1 too", puts(two), 2, 18, 0, 0, 0, 1);
+        row("13 by LAW 1 too", Due.puts(two), 2, 18, 0, 0, 0, 1);
         MayNotPause pens = Due.with("p010;p810", "r019");
-        row("13 ahead of pens", puts(pens), 1, 17, 0, 0, NONE, NONE);
+        row("13 ahead of pens", Due.puts(pens), 1, 17, 0, 0, NONE, NONE);
         pens.set(WEAR, 1);
         pens.set(PENS, 1);
-        row("13 no pens for it", puts(pens), NONE, NONE, NONE, NONE, NONE, NONE);
+        row("13 no pens for it", Due.puts(pens), NONE, NONE, NONE, NONE, NONE, NONE);
         pens.set(PENS, 2);
-        row("13 just so many pens", puts(pens), 1, 17, 0, 0, NONE, NONE);
+        row("13 just so many pens", Due.puts(pens), 1, 17, 0, 0, NONE, NONE);
         pens.wipe(0);
-        row("13 wiped", puts(pens), 0, 0, NONE, NONE, NONE, NONE);
+        row("13 wiped", Due.puts(pens), 0, 0, NONE, NONE, NONE, NONE);
     }
 
     private static void putTies() {
         MayNotPause like = Due.with("l010;l810", "p016;r014;p016");
-        row("13 of like ones the least place, then the least one", puts(like), 1, 12, 0, 0, NONE, NONE);
+        row("13 of like ones the least place, then the least one", Due.puts(like), 1, 12, 0, 0, NONE, NONE);
         like.wipe(1);
         Due.typeAll(like, 1, "l217;c016");
-        row("13 the place comes first", puts(like), 1, 12, 0, 1, NONE, NONE);
+        row("13 the place comes first", Due.puts(like), 1, 12, 0, 1, NONE, NONE);
         // As long are the second twice at 0, and the first at 0 with the third at 1.
         MayNotPause both = Due.with("l010;l910;l610", "p012;p017;r419");
-        row("13 both places come ahead of both HARD ones", puts(both), 2, 23, 0, 1, 0, 1);
+        row("13 both places come ahead of both HARD ones", Due.puts(both), 2, 23, 0, 1, 0, 1);
         // The twelfth verse is late by 8: a list gains 2 breaths, the riddle 6, and 5 when it comes again.
         MayNotPause full = Due.with("p110;".repeat(11) + "p910", "l010;l010;l010;r013");
         full.set(LEAD, 1);
-        row("13 two with twelve verses", puts(full), 2, 33, 0, 0, 0, 3);
+        row("13 two with twelve verses", Due.puts(full), 2, 33, 0, 0, 0, 3);
         full.wipe(1);
         Due.typeAll(full, 1, "p010;p010;p010;r013");
-        row("13 the last one twice", puts(full), 2, 37, 0, 3, 0, 3);
+        row("13 the last one twice", Due.puts(full), 2, 37, 0, 3, 0, 3);
         full.set(LEAD, 3);
-        row("13 the last one once", puts(full), 1, 31, 0, 3, NONE, NONE);
+        row("13 the last one once", Due.puts(full), 1, 31, 0, 3, NONE, NONE);
     }
 
     private static void order() {
-        row("14 no verses", orders(new MayNotPause()), 0, 0, NONE, NONE, NONE, NONE, NONE, NONE, NONE);
+        row("14 no verses", Due.orders(new MayNotPause()), 0, 0, NONE, NONE, NONE, NONE, NONE, NONE, NONE);
         MayNotPause x = Due.with("p910;p018;p810", "");
-        row("14 the one that gains time is first", orders(x), 7, 21, 1, 0, 2, NONE, NONE, NONE, NONE);
+        row("14 the one that gains time is first", Due.orders(x), 7, 21, 1, 0, 2, NONE, NONE, NONE, NONE);
         x.set(LAW, 1);
-        row("14 LAW aside", orders(x), 7, 21, 1, 0, 2, NONE, NONE, NONE, NONE);
+        row("14 LAW aside", Due.orders(x), 7, 21, 1, 0, 2, NONE, NONE, NONE, NONE);
         x.set(LEAD, 99);
-        row("14 of like ones the least LONG", orders(x), 0, 12, 0, 2, 1, NONE, NONE, NONE, NONE);
+        row("14 of like ones the least LONG", Due.orders(x), 0, 12, 0, 2, 1, NONE, NONE, NONE, NONE);
         MayNotPause pens = Due.with("p010;p010", "");
         pens.set(WEAR, 1);
         pens.set(CHANGE, 2);
         pens.set(PENS, 0);
-        row("14 with as many PENS as it takes", orders(pens), 0, 6, 0, 1, NONE, NONE, NONE, NONE, NONE);
+        row("14 with as many PENS as it takes", Due.orders(pens), 0, 6, 0, 1, NONE, NONE, NONE, NONE, NONE);
         MayNotPause eight = Due.with("p010;p010;p010;p010;p010;p010;p010;p990", "");
-        row("14 the first seven", orders(eight), 0, 14, 0, 1, 2, 3, 4, 5, 6);
+        row("14 the first seven", Due.orders(eight), 0, 14, 0, 1, 2, 3, 4, 5, 6);
         due("14 no such", x.order(-3), BAD);
         due("14 no such", x.order(7), BAD);
     }
@@ -395,17 +368,17 @@ public final class PromisesTest {
     }
 
     private static void odds() {
-        row("16 no verses", oddsOf(new MayNotPause()), 1, 1, 0, 1);
-        row("16 a KNOT of 5 is surely solved", oddsOf(Due.with("p115", "")), 1, 1, 1, 1);
-        row("16 a KNOT of 6", oddsOf(Due.with("p116", "")), 15, 16, 15, 16);
-        row("16 a KNOT of 9", oddsOf(Due.with("p119", "")), 3, 4, 3, 4);
-        row("16 the KNOT that counts", oddsOf(Due.with("p115;p116", "")), 1, 1, 2, 1);
-        row("16 two", oddsOf(Due.with("p117;p111;r118", "")), 91, 128, 315, 128);
-        row("16 unlike ones below", oddsOf(Due.with("p119;r116;p119", "")), 585, 1024, 2073, 1024);
-        row("16 WHOLE and MEAN have their own below", oddsOf(Due.with("p119;p111", "")), 3, 4, 3, 2);
+        row("16 no verses", Due.oddsOf(new MayNotPause()), 1, 1, 0, 1);
+        row("16 a KNOT of 5 is surely solved", Due.oddsOf(Due.with("p115", "")), 1, 1, 1, 1);
+        row("16 a KNOT of 6", Due.oddsOf(Due.with("p116", "")), 15, 16, 15, 16);
+        row("16 a KNOT of 9", Due.oddsOf(Due.with("p119", "")), 3, 4, 3, 4);
+        row("16 the KNOT that counts", Due.oddsOf(Due.with("p115;p116", "")), 1, 1, 2, 1);
+        row("16 two", Due.oddsOf(Due.with("p117;p111;r118", "")), 91, 128, 315, 128);
+        row("16 unlike ones below", Due.oddsOf(Due.with("p119;r116;p119", "")), 585, 1024, 2073, 1024);
+        row("16 WHOLE and MEAN have their own below", Due.oddsOf(Due.with("p119;p111", "")), 3, 4, 3, 2);
         MayNotPause x = Due.with("p997", "");
         x.set(LAW, 1);
-        row("16 LAW aside", oddsOf(x), 7, 8, 7, 8);
+        row("16 LAW aside", Due.oddsOf(x), 7, 8, 7, 8);
         due("16 no such", x.odds(-1), Long.MIN_VALUE + 2);
         due("16 no such", x.odds(4), Long.MIN_VALUE + 2);
     }
@@ -767,7 +740,7 @@ public final class PromisesTest {
             }
             add.accept(x.rest(v));
         }
-        for (long each : poems(x)) {
+        for (long each : Due.poems(x)) {
             add.accept(each);
         }
         add.accept(x.judged());
@@ -776,14 +749,14 @@ public final class PromisesTest {
                 add.accept(x.doing(breath, what));
             }
         }
-        for (long each : puts(x)) {
+        for (long each : Due.puts(x)) {
             add.accept(each);
         }
         for (int i = -2; i <= 2; i++) {
             add.accept(x.order(i));
         }
         add.accept(x.lead());
-        for (long each : oddsOf(x)) {
+        for (long each : Due.oddsOf(x)) {
             add.accept(each);
         }
         add.accept(x.drawn(7));

@@ -278,6 +278,13 @@ public final class TextEdgesTest {
         for (int text : NO_TEXT) {
             due("no text " + text, new MayNotPause().wipe(text), BAD);
         }
+        MayNotPause told = Due.with("p310;p910", "");
+        due("order", told.order(-2), 3 + 8);
+        told.wipe(0);
+        DUE.row("the poem is empty", Due.poems(told), 0, 0, 0, 0);
+        due("MAKE of none", told.count(5), 0);
+        due("order of none", told.order(-2), 0);
+        due("put into none", told.put(0), 0);
     }
 
     private static void undo() {
@@ -299,6 +306,16 @@ public final class TextEdgesTest {
         for (int text : NO_TEXT) {
             due("no text " + text, Due.with("p010").undo(text), BAD);
         }
+        MayNotPause told = Due.with("p310;p910", "l010");
+        due("order of two", told.order(-1), 3 + 2 + 8 + 2);
+        due("put into two", told.put(0), NONE);
+        told.undo(0);
+        DUE.row("the poem of one", Due.poems(told), 1, 5, 3, 0);
+        due("MAKE of one", told.count(5), 3);
+        due("order of one", told.order(-1), 5);
+        due("put into one", told.put(0), 2);
+        told.undo(1);
+        due("put no more", told.put(0), NONE);
     }
 
     private static void fault() {
